@@ -445,6 +445,7 @@ public final class PromisesTest {
             Due.fails("bound x low", INDEX, () -> t.bound(coder, 0, -1, 0));
             Due.fails("bound y low", INDEX, () -> t.bound(coder, 0, 0, -1));
             Due.fails("bound y high", INDEX, () -> t.bound(coder, 0, 0, 2));
+            Due.fails("bound above the highest root", INDEX, () -> new TagTrees(32, 32).bound(coder, 6, 0, 0));
         }
     }
 
@@ -469,6 +470,9 @@ public final class PromisesTest {
         Due.fails("least y high", INDEX, () -> t.least(1, 0, 2));
         Due.fails("least x low", INDEX, () -> t.least(0, LOW, 0));
         Due.fails("least y low", INDEX, () -> t.least(0, 0, -1));
+        TagTrees tall = new TagTrees(32, 32);
+        Due.is("the highest root", tall.least(5, 0, 0), 0);
+        Due.fails("least above the highest root", INDEX, () -> tall.least(6, 0, 0));
     }
 
     private static void promise15Leaf() {
