@@ -4,10 +4,34 @@ final class Due {
         int answer();
     }
 
+    static final Class<IndexOutOfBoundsException> INDEX = IndexOutOfBoundsException.class;
+    static final Class<IllegalArgumentException> ARGUMENT = IllegalArgumentException.class;
+    static final Class<IllegalStateException> STATE = IllegalStateException.class;
+    static final Class<UnsupportedOperationException> TOO_MANY = UnsupportedOperationException.class;
+    static final int LOW = Integer.MIN_VALUE;
+    static final int HIGH = Integer.MAX_VALUE;
+
+    private static int sentences = 0;
     private static int checked = 0;
     private static int wrong = 0;
 
     private Due() {
+    }
+
+    /** A test of its own for one sentence of the document, in the document's words. */
+    static void sentence(String where, String words, Runnable test) {
+        sentences++;
+        int checkedBefore = checked;
+        int wrongBefore = wrong;
+        try {
+            test.run();
+        } catch (RuntimeException e) {
+            is("a call that should answer", "throws." + e.getClass().getSimpleName(), "an answer");
+        }
+        if (wrong > wrongBefore || checked == checkedBefore) {
+            System.out.println("does not hold, " + where + ": " + words);
+            wrong += checked == checkedBefore ? 1 : 0;
+        }
     }
 
     static void is(String what, Object got, Object want) {
@@ -32,7 +56,8 @@ final class Due {
     }
 
     static void end() {
-        System.out.println(checked + " answers looked at, " + wrong + " not as due");
+        String tested = sentences == 0 ? "" : sentences + " sentences, ";
+        System.out.println(tested + checked + " answers looked at, " + wrong + " not as due");
         if (wrong != 0 || checked == 0) {
             System.exit(1);
         }

@@ -1,11 +1,11 @@
 /** A part for each promise of the document: ordinary calls, the edges it names, wrong inputs. */
 public final class PromisesTest {
-    private static final Class<IndexOutOfBoundsException> INDEX = IndexOutOfBoundsException.class;
-    private static final Class<IllegalArgumentException> ARGUMENT = IllegalArgumentException.class;
-    private static final Class<IllegalStateException> STATE = IllegalStateException.class;
-    private static final Class<UnsupportedOperationException> TOO_MANY = UnsupportedOperationException.class;
-    private static final int LOW = Integer.MIN_VALUE;
-    private static final int HIGH = Integer.MAX_VALUE;
+    private static final Class<IndexOutOfBoundsException> INDEX = Due.INDEX;
+    private static final Class<IllegalArgumentException> ARGUMENT = Due.ARGUMENT;
+    private static final Class<IllegalStateException> STATE = Due.STATE;
+    private static final Class<UnsupportedOperationException> TOO_MANY = Due.TOO_MANY;
+    private static final int LOW = Due.LOW;
+    private static final int HIGH = Due.HIGH;
 
     public static void main(String[] args) {
         promise1NewObject();
@@ -32,91 +32,26 @@ public final class PromisesTest {
         Due.end();
     }
 
-    /** Two by two leaves 3, 1, 2, 4 below a root whose value is 1. */
-    private static TagTrees four() {
-        TagTrees t = new TagTrees(2, 2);
-        t.value(0, 0, 3);
-        t.value(1, 0, 1);
-        t.value(0, 1, 2);
-        t.value(1, 1, 4);
-        return t;
-    }
-
-    /** 32 by 32 leaves, even rows 0 and odd rows 1000: each bit of a threshold costs 512 bits. */
-    private static TagTrees dear() {
-        TagTrees t = new TagTrees(32, 32);
-        for (int y = 0; y < 32; y++) {
-            t.values(0, y, 32, y % 2 * 1000, 0);
-        }
-        return t;
-    }
-
-    /** The same with 40000 bits told. */
-    private static TagTrees full() {
-        TagTrees t = dear();
-        t.encodeAll(0, 76);
-        t.encode(0, 1, 311);
-        return t;
-    }
-
-    private static String bitsOf(TagTrees t) {
-        StringBuilder bits = new StringBuilder();
-        for (int i = 0; i < t.told(4); i++) {
-            bits.append(t.bitAt(i));
-        }
-        return bits.toString();
-    }
-
-    private static String sizes(TagTrees t) {
-        StringBuilder all = new StringBuilder();
-        for (int what = 0; what < 8; what++) {
-            all.append(t.told(what)).append(' ');
-        }
-        return all.toString().trim();
-    }
-
-    /** All that can be seen of a tree of two by two leaves. */
-    private static String stateOfFour(TagTrees t) {
-        StringBuilder all = new StringBuilder(sizes(t)).append(" bits ").append(bitsOf(t));
-        for (int node = 0; node < 5; node++) {
-            int level = node / 4;
-            int x = node % 2 * (1 - level);
-            int y = node % 4 / 2;
-            all.append(" | ").append(t.least(level, x, y)).append(' ').append(t.bound(true, level, x, y));
-            all.append(' ').append(t.bound(false, level, x, y));
-            if (level == 0) {
-                all.append(' ').append(t.known(x, y));
-            }
-        }
-        return all.toString();
-    }
-
-    private static void feedAll(TagTrees t, String bits) {
-        for (int i = 0; i < bits.length(); i++) {
-            t.feed(bits.charAt(i) - '0');
-        }
-    }
-
     private static void promise1NewObject() {
-        Due.is("3 x 2", sizes(new TagTrees(3, 2)), "3 2 3 9 0 0 0 0");
-        Due.is("1 x 1", sizes(new TagTrees(1, 1)), "1 1 1 1 0 0 0 0");
-        Due.is("32 x 32", sizes(new TagTrees(32, 32)), "32 32 6 1365 0 0 0 0");
-        Due.is("32 x 1", sizes(new TagTrees(32, 1)), "32 1 6 63 0 0 0 0");
-        Due.is("1 x 17", sizes(new TagTrees(1, 17)), "1 17 6 37 0 0 0 0");
-        Due.is("16 x 9", sizes(new TagTrees(16, 9)), "16 9 5 201 0 0 0 0");
-        Due.is("0 x 33", sizes(new TagTrees(0, 33)), "1 32 6 63 0 0 0 0");
-        Due.is("low x high", sizes(new TagTrees(LOW, HIGH)), "1 32 6 63 0 0 0 0");
-        Due.is("high x -1", sizes(new TagTrees(HIGH, -1)), "32 1 6 63 0 0 0 0");
-        Due.is("all 0", stateOfFour(new TagTrees(2, 2)),
+        Due.is("3 x 2", Seen.sizes(new TagTrees(3, 2)), "3 2 3 9 0 0 0 0");
+        Due.is("1 x 1", Seen.sizes(new TagTrees(1, 1)), "1 1 1 1 0 0 0 0");
+        Due.is("32 x 32", Seen.sizes(new TagTrees(32, 32)), "32 32 6 1365 0 0 0 0");
+        Due.is("32 x 1", Seen.sizes(new TagTrees(32, 1)), "32 1 6 63 0 0 0 0");
+        Due.is("1 x 17", Seen.sizes(new TagTrees(1, 17)), "1 17 6 37 0 0 0 0");
+        Due.is("16 x 9", Seen.sizes(new TagTrees(16, 9)), "16 9 5 201 0 0 0 0");
+        Due.is("0 x 33", Seen.sizes(new TagTrees(0, 33)), "1 32 6 63 0 0 0 0");
+        Due.is("low x high", Seen.sizes(new TagTrees(LOW, HIGH)), "1 32 6 63 0 0 0 0");
+        Due.is("high x -1", Seen.sizes(new TagTrees(HIGH, -1)), "32 1 6 63 0 0 0 0");
+        Due.is("all 0", Seen.state(new TagTrees(2, 2)),
             "2 2 2 5 0 0 0 0 bits  | 0 0 0 -1 | 0 0 0 -1 | 0 0 0 -1 | 0 0 0 -1 | 0 0 0");
     }
 
     private static void promise2Value() {
-        TagTrees t = four();
+        TagTrees t = Trees.four();
         Due.is("value", t.value(0, 0, 1000), 3);
         Due.is("value again", t.value(0, 0, 0), 1000);
         Due.is("value of another leaf", t.value(1, 1, 4), 4);
-        String before = stateOfFour(t);
+        String before = Seen.state(t);
         Due.fails("value x low", INDEX, () -> t.value(-1, 0, 1));
         Due.fails("value x high", INDEX, () -> t.value(2, 0, 1));
         Due.fails("value y low", INDEX, () -> t.value(0, -1, 1));
@@ -124,18 +59,18 @@ public final class PromisesTest {
         Due.fails("value v low", ARGUMENT, () -> t.value(0, 0, -1));
         Due.fails("value v high", ARGUMENT, () -> t.value(0, 0, 1001));
         Due.fails("value, place before v", INDEX, () -> t.value(HIGH, LOW, -1));
-        Due.is("value that throws", stateOfFour(t), before);
+        Due.is("value that throws", Seen.state(t), before);
 
         Due.is("nothing to tell", t.encode(0, 0, 0), 0);
         Due.is("value after no bit", t.value(0, 0, 5), 0);
         t.feed(1);
         Due.is("value after a bit fed", t.value(0, 0, 6), 5);
         t.encode(0, 0, 1);
-        String told = stateOfFour(t);
+        String told = Seen.state(t);
         Due.fails("value after a bit", STATE, () -> t.value(0, 0, 1));
         Due.fails("value, v before the state", ARGUMENT, () -> t.value(0, 0, 1001));
         Due.fails("value, place before the state", INDEX, () -> t.value(0, 2, 1));
-        Due.is("value that throws, later", stateOfFour(t), told);
+        Due.is("value that throws, later", Seen.state(t), told);
         t.reset();
         Due.is("value after reset", t.value(0, 0, 7), 6);
     }
@@ -164,39 +99,39 @@ public final class PromisesTest {
         Due.is("values, last", far.least(0, 31, 31), 1000);
         Due.is("values, the one before", far.least(0, 30, 31), 0);
 
-        TagTrees f = four();
-        String before = stateOfFour(f);
+        TagTrees f = Trees.four();
+        String before = Seen.state(f);
         Due.fails("values x high", INDEX, () -> f.values(2, 0, 1, 1, 1));
         Due.fails("values y low", INDEX, () -> f.values(0, -1, 1, 1, 1));
         Due.fails("values n low", ARGUMENT, () -> f.values(0, 0, -1, 1, 1));
         Due.fails("values, place before n", INDEX, () -> f.values(0, 2, -1, 1, 1));
-        Due.is("values that throws", stateOfFour(f), before);
+        Due.is("values that throws", Seen.state(f), before);
         f.encode(0, 0, 1);
-        String told = stateOfFour(f);
+        String told = Seen.state(f);
         Due.fails("values after a bit", STATE, () -> f.values(0, 0, 1, 1, 1));
         Due.fails("no values after a bit", STATE, () -> f.values(0, 0, 0, 1, 1));
         Due.fails("values, n before the state", ARGUMENT, () -> f.values(0, 0, -1, 1, 1));
-        Due.is("values that throws, later", stateOfFour(f), told);
+        Due.is("values that throws, later", Seen.state(f), told);
     }
 
     private static void promise4Encode() {
-        TagTrees t = four();
+        TagTrees t = Trees.four();
         Due.is("encode up to 0", t.encode(0, 0, 0), 0);
         Due.is("encode up to 1", t.encode(0, 0, 1), 1);
-        Due.is("root not known yet", sizes(t), "2 2 2 5 1 0 0 0");
+        Due.is("root not known yet", Seen.sizes(t), "2 2 2 5 1 0 0 0");
         Due.is("encode up to 3", t.encode(0, 0, 3), 3);
         Due.is("encode the same", t.encode(0, 0, 3), 0);
         Due.is("encode lower", t.encode(0, 0, 1), 0);
         Due.is("encode another leaf", t.encode(1, 0, 3), 1);
         Due.is("encode beyond its value", t.encode(0, 0, 1001), 1);
-        Due.is("encode bits", bitsOf(t), "010011");
-        String before = stateOfFour(t);
+        Due.is("encode bits", Seen.bits(t), "010011");
+        String before = Seen.state(t);
         Due.fails("encode x high", INDEX, () -> t.encode(2, 0, 1));
         Due.fails("encode y low", INDEX, () -> t.encode(0, LOW, 1));
         Due.fails("encode threshold low", ARGUMENT, () -> t.encode(0, 0, -1));
         Due.fails("encode threshold high", ARGUMENT, () -> t.encode(0, 0, 1002));
         Due.fails("encode, place first", INDEX, () -> t.encode(-1, 0, 1002));
-        Due.is("encode that throws", stateOfFour(t), before);
+        Due.is("encode that throws", Seen.state(t), before);
 
         TagTrees one = new TagTrees(1, 1);
         one.value(0, 0, 1000);
@@ -207,7 +142,7 @@ public final class PromisesTest {
     }
 
     private static void promise4Propagation() {
-        TagTrees t = four();
+        TagTrees t = Trees.four();
         t.encode(0, 0, 9);
         Due.is("a leaf that was not told keeps its bound", t.bound(true, 0, 1, 1), 0);
         Due.is("told up to 0", t.encode(1, 1, 0), 0);
@@ -217,19 +152,19 @@ public final class PromisesTest {
         deep.encode(0, 0, 4);
         deep.encode(3, 3, 2);
         Due.is("two levels down", deep.bound(true, 0, 3, 3), 4);
-        Due.is("no bits for it", bitsOf(deep), "0000");
+        Due.is("no bits for it", Seen.bits(deep), "0000");
     }
 
     private static void promise5Cost() {
-        TagTrees t = four();
-        String before = stateOfFour(t);
+        TagTrees t = Trees.four();
+        String before = Seen.state(t);
         Due.is("cost up to 0", t.cost(1, 1, 0), 0);
         Due.is("cost up to 1", t.cost(1, 1, 1), 1);
         Due.is("cost up to 3", t.cost(1, 1, 3), 4);
         Due.is("cost up to 1001", t.cost(1, 1, 1001), 6);
-        Due.is("cost tells nothing", stateOfFour(t), before);
+        Due.is("cost tells nothing", Seen.state(t), before);
         t.encode(0, 0, 2);
-        String told = stateOfFour(t);
+        String told = Seen.state(t);
         Due.is("cost later", t.cost(1, 1, 1001), 4);
         Due.is("cost of a leaf told", t.cost(0, 0, 2), 0);
         Due.fails("cost x high", INDEX, () -> t.cost(2, 0, 1));
@@ -237,37 +172,37 @@ public final class PromisesTest {
         Due.fails("cost threshold low", ARGUMENT, () -> t.cost(0, 0, -1));
         Due.fails("cost threshold high", ARGUMENT, () -> t.cost(0, 0, 1002));
         Due.fails("cost, place first", INDEX, () -> t.cost(0, 2, -1));
-        Due.is("cost changes nothing", stateOfFour(t), told);
+        Due.is("cost changes nothing", Seen.state(t), told);
         Due.is("cost is what encode tells", t.encode(1, 1, 1001), 4);
-        TagTrees f = full();
+        TagTrees f = Trees.full();
         Due.is("cost beyond the limit", f.cost(1, 1, 1001), 925);
     }
 
     private static void promise6EncodeAll() {
-        TagTrees rows = four();
+        TagTrees rows = Trees.four();
         Due.is("encodeAll, rows", rows.encodeAll(0, 3), 9);
-        Due.is("rows' bits", bitsOf(rows), "010010100");
-        TagTrees columns = four();
+        Due.is("rows' bits", Seen.bits(rows), "010010100");
+        TagTrees columns = Trees.four();
         Due.is("encodeAll, columns", columns.encodeAll(1, 3), 9);
-        Due.is("columns' bits", bitsOf(columns), "010001100");
+        Due.is("columns' bits", Seen.bits(columns), "010001100");
         TagTrees quarters = new TagTrees(3, 2);
         quarters.values(0, 0, 6, 0, 1);
         Due.is("encodeAll, quarters", quarters.encodeAll(2, 3), 16);
-        Due.is("quarters' bits", bitsOf(quarters), "111" + "01" + "000" + "000" + "001" + "1" + "0");
+        Due.is("quarters' bits", Seen.bits(quarters), "111" + "01" + "000" + "000" + "001" + "1" + "0");
         Due.is("encodeAll again", quarters.encodeAll(0, 3), 0);
-        String before = stateOfFour(rows);
+        String before = Seen.state(rows);
         Due.fails("encodeAll order low", ARGUMENT, () -> rows.encodeAll(-1, 1));
         Due.fails("encodeAll order high", ARGUMENT, () -> rows.encodeAll(3, 1));
         Due.fails("encodeAll threshold low", ARGUMENT, () -> rows.encodeAll(0, -1));
         Due.fails("encodeAll threshold high", ARGUMENT, () -> rows.encodeAll(2, 1002));
-        Due.is("encodeAll that throws", stateOfFour(rows), before);
+        Due.is("encodeAll that throws", Seen.state(rows), before);
         Due.is("encodeAll, the rest", rows.encodeAll(2, 1001), 3);
         Due.is("all known", rows.told(6), 5);
         Due.fails("values after encodeAll", STATE, () -> rows.value(0, 0, 0));
     }
 
     private static void promise7BitAt() {
-        TagTrees t = four();
+        TagTrees t = Trees.four();
         Due.fails("bitAt, none", INDEX, () -> t.bitAt(0));
         t.encode(1, 0, 2);
         Due.is("bitAt 0", t.bitAt(0), 0);
@@ -279,20 +214,20 @@ public final class PromisesTest {
         t.pass(3);
         t.decode(1, 0, 2);
         Due.is("bitAt of a bit taken", t.bitAt(1), 1);
-        TagTrees f = full();
+        TagTrees f = Trees.full();
         Due.is("bitAt, last", f.bitAt(39999), 0);
         Due.is("bitAt, one of the first", f.bitAt(5), 1);
         Due.fails("bitAt, 40000", INDEX, () -> f.bitAt(40000));
     }
 
     private static void promise8Feed() {
-        TagTrees t = four();
+        TagTrees t = Trees.four();
         Due.is("feed 0", t.feed(0), 1);
         Due.is("feed 1", t.feed(1), 2);
-        String before = stateOfFour(t);
+        String before = Seen.state(t);
         Due.fails("feed 2", ARGUMENT, () -> t.feed(2));
         Due.fails("feed -1", ARGUMENT, () -> t.feed(-1));
-        Due.is("feed that throws", stateOfFour(t), before);
+        Due.is("feed that throws", Seen.state(t), before);
         Due.is("fed bits are not told", t.told(4), 0);
         t.decode(0, 0, 1);
         Due.is("feed after one is taken", t.feed(1), 2);
@@ -301,7 +236,7 @@ public final class PromisesTest {
     }
 
     private static void promise9Pass() {
-        TagTrees t = four();
+        TagTrees t = Trees.four();
         Due.is("pass, none told", t.pass(5), 0);
         t.encode(1, 0, 2);
         Due.is("pass 0", t.pass(0), 0);
@@ -309,15 +244,15 @@ public final class PromisesTest {
         Due.is("waiting", t.told(5), 2);
         Due.is("pass the rest", t.pass(HIGH), 1);
         Due.is("pass, none left", t.pass(1), 0);
-        String before = stateOfFour(t);
+        String before = Seen.state(t);
         Due.fails("pass -1", ARGUMENT, () -> t.pass(-1));
         Due.fails("pass low", ARGUMENT, () -> t.pass(LOW));
-        Due.is("pass that throws", stateOfFour(t), before);
+        Due.is("pass that throws", Seen.state(t), before);
         t.encode(1, 1, 2);
         Due.is("pass what came since", t.pass(9), 1);
         Due.is("decode by bits passed", t.decode(1, 0, 2) + " " + t.known(1, 0), "1 1");
         Due.is("decode by the last", t.decode(1, 1, 2) + " " + t.known(1, 1), "0 -3");
-        TagTrees behind = four();
+        TagTrees behind = Trees.four();
         behind.feed(0);
         behind.feed(0);
         behind.encode(1, 0, 2);
@@ -327,17 +262,17 @@ public final class PromisesTest {
     }
 
     private static void promise10Decode() {
-        TagTrees t = four();
+        TagTrees t = Trees.four();
         t.encode(0, 0, 4);
         t.encode(1, 0, 4);
-        Due.is("what is told", bitsOf(t), "010011");
-        String before = stateOfFour(t);
+        Due.is("what is told", Seen.bits(t), "010011");
+        String before = Seen.state(t);
         Due.is("decode without bits", t.decode(0, 0, 4), -2);
-        Due.is("it changes nothing", stateOfFour(t), before);
+        Due.is("it changes nothing", Seen.state(t), before);
         t.pass(4);
-        before = stateOfFour(t);
+        before = Seen.state(t);
         Due.is("decode without bits enough", t.decode(0, 0, 4), -2);
-        Due.is("nothing is taken", stateOfFour(t), before);
+        Due.is("nothing is taken", Seen.state(t), before);
         Due.is("decode less", t.decode(0, 0, 3), 0);
         Due.is("decode up to 0", t.decode(0, 0, 0), 0);
         t.pass(9);
@@ -346,15 +281,15 @@ public final class PromisesTest {
         Due.is("decode above it", t.decode(0, 0, 1001), 1);
         Due.is("decode another", t.decode(1, 0, 2), 1);
         Due.is("bits left", t.told(5), 0);
-        String told = stateOfFour(t);
+        String told = Seen.state(t);
         Due.fails("decode x high", INDEX, () -> t.decode(2, 0, 1));
         Due.fails("decode y low", INDEX, () -> t.decode(0, -1, 1));
         Due.fails("decode threshold low", ARGUMENT, () -> t.decode(0, 0, -1));
         Due.fails("decode threshold high", ARGUMENT, () -> t.decode(0, 0, 1002));
         Due.fails("decode, place first", INDEX, () -> t.decode(0, 2, 1002));
-        Due.is("decode that throws", stateOfFour(t), told);
+        Due.is("decode that throws", Seen.state(t), told);
         Due.is("decode that waits", t.decode(1, 1, 2), -2);
-        Due.is("not even bounds change", stateOfFour(t), told);
+        Due.is("not even bounds change", Seen.state(t), told);
         Due.is("decode up to 0 needs no bit", t.decode(1, 1, 0), 0);
         Due.is("but brings the bound", t.known(1, 1), -2);
     }
@@ -371,7 +306,7 @@ public final class PromisesTest {
     }
 
     private static void promise11DecodeAll() {
-        TagTrees t = four();
+        TagTrees t = Trees.four();
         t.encodeAll(1, 3);
         Due.is("decodeAll up to 0", t.decodeAll(0, 0), 4);
         Due.is("decodeAll without bits", t.decodeAll(1, 3), 0);
@@ -385,12 +320,12 @@ public final class PromisesTest {
         Due.is("decodeAll, all", t.decodeAll(1, 3), 4);
         Due.is("what it found", t.known(0, 0) + " " + t.known(1, 0) + " " + t.known(0, 1) + " " + t.known(1, 1),
             "-4 1 2 -4");
-        String before = stateOfFour(t);
+        String before = Seen.state(t);
         Due.fails("decodeAll order low", ARGUMENT, () -> t.decodeAll(-1, 1));
         Due.fails("decodeAll order high", ARGUMENT, () -> t.decodeAll(3, 1));
         Due.fails("decodeAll threshold low", ARGUMENT, () -> t.decodeAll(0, -1));
         Due.fails("decodeAll threshold high", ARGUMENT, () -> t.decodeAll(0, 1002));
-        Due.is("decodeAll that throws", stateOfFour(t), before);
+        Due.is("decodeAll that throws", Seen.state(t), before);
         for (int order = 0; order < 3; order++) {
             TagTrees far = new TagTrees(7, 5);
             far.values(0, 0, 35, 990, -23);
@@ -404,7 +339,7 @@ public final class PromisesTest {
     }
 
     private static void promise12Known() {
-        TagTrees t = four();
+        TagTrees t = Trees.four();
         Due.is("known, nothing", t.known(1, 1), -1);
         t.encodeAll(0, 1001);
         Due.is("known to the coder only", t.known(1, 1), -1);
@@ -425,7 +360,7 @@ public final class PromisesTest {
     }
 
     private static void promise13Bound() {
-        TagTrees t = four();
+        TagTrees t = Trees.four();
         t.encode(1, 1, 3);
         t.feed(0);
         t.feed(0);
@@ -499,14 +434,14 @@ public final class PromisesTest {
     }
 
     private static void promise16Told() {
-        TagTrees t = four();
+        TagTrees t = Trees.four();
         t.encode(1, 0, 2);
         t.pass(3);
         t.feed(0);
         t.decode(0, 0, 2);
-        Due.is("told", sizes(t), "2 2 2 5 3 1 2 2");
+        Due.is("told", Seen.sizes(t), "2 2 2 5 3 1 2 2");
         t.decode(1, 0, 2);
-        Due.is("told later", sizes(t), "2 2 2 5 3 0 2 2");
+        Due.is("told later", Seen.sizes(t), "2 2 2 5 3 0 2 2");
         Due.is("told 8", t.told(8), -1);
         Due.is("told -1", t.told(-1), -1);
         Due.is("told high", t.told(HIGH), -1);
@@ -514,12 +449,12 @@ public final class PromisesTest {
     }
 
     private static void promise17Reset() {
-        TagTrees t = four();
+        TagTrees t = Trees.four();
         t.encodeAll(0, 1001);
         t.pass(7);
         t.decode(0, 0, 3);
         t.reset();
-        Due.is("reset", stateOfFour(t),
+        Due.is("reset", Seen.state(t),
             "2 2 2 5 0 0 0 0 bits  | 3 0 0 -1 | 1 0 0 -1 | 2 0 0 -1 | 4 0 0 -1 | 1 0 0");
         Due.is("nothing to pass", t.pass(9), 0);
         Due.is("value after reset", t.value(0, 0, 9), 3);
@@ -529,11 +464,11 @@ public final class PromisesTest {
     }
 
     private static void limitOfBitsTold() {
-        TagTrees t = dear();
+        TagTrees t = Trees.dear();
         Due.fails("encodeAll, too many", TOO_MANY, () -> t.encodeAll(0, 77));
         Due.fails("encodeAll, very many", TOO_MANY, () -> t.encodeAll(2, 1001));
         Due.fails("encodeAll, order first", ARGUMENT, () -> t.encodeAll(3, 1001));
-        Due.is("nothing told", sizes(t), "32 32 6 1365 0 0 0 0");
+        Due.is("nothing told", Seen.sizes(t), "32 32 6 1365 0 0 0 0");
         Due.is("no bound", t.bound(true, 0, 0, 1), 0);
         Due.is("value still free", t.value(0, 1, 1000), 1000);
         Due.is("encodeAll, not too many", t.encodeAll(1, 76), 39765);
@@ -552,7 +487,7 @@ public final class PromisesTest {
     }
 
     private static void limitOfBitsWaiting() {
-        TagTrees t = full();
+        TagTrees t = Trees.full();
         Due.is("feed before", t.feed(1), 1);
         Due.fails("pass, one too many", TOO_MANY, () -> t.pass(40000));
         Due.fails("pass, all", TOO_MANY, () -> t.pass(HIGH));
@@ -572,11 +507,11 @@ public final class PromisesTest {
         Due.fails("feed, full again", TOO_MANY, () -> t.feed(0));
         Due.is("the bits keep their order", t.decode(1, 0, 1) + " " + t.told(5), "1 39999");
 
-        TagTrees round = full();
+        TagTrees round = Trees.full();
         round.pass(40000);
         Due.is("decodeAll", round.decodeAll(0, 76), 1024);
         Due.is("left", round.told(5), 235);
-        feedAll(round, "1");
+        Trees.feedAll(round, "1");
         Due.is("across the end of the row", round.decode(0, 1, 312) + " " + round.known(0, 1), "1 311");
         Due.is("none left", round.told(5), 0);
     }
